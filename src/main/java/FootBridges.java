@@ -153,11 +153,13 @@ public final class FootBridges {
     }
 
     public int cheapest() {
-        return dampers.chosenPrice(walkers, rules);
+        dampers.choose(walkers, rules);
+        return dampers.chosenPrice();
     }
 
     public int bought(int i) {
-        return dampers.chosenAt(i, walkers, rules);
+        dampers.choose(walkers, rules);
+        return dampers.chosenAt(i);
     }
 
     // ---- people
@@ -450,7 +452,7 @@ public final class FootBridges {
         }
 
         private int beatFrom(int sway, int damping) {
-            return beat(sway, netAt(sway, damping));
+            return beat(sway, pushAt(sway) / 100 - damping);
         }
 
         private int swayBehind(int sway, int n, int damping) {
@@ -490,12 +492,8 @@ public final class FootBridges {
             return NONE;
         }
 
-        private boolean comesToRest(int sway, int damping) {
-            return beatsTillStill(sway, damping) != NONE;
-        }
-
         private int ringFigure(int sway, int what, int damping) {
-            if (comesToRest(sway, damping)) {
+            if (beatsTillStill(sway, damping) != NONE) {
                 return NONE;
             }
             switch (what) {
@@ -550,10 +548,10 @@ public final class FootBridges {
             int n = 0;
             for (int i = 0; i <= MOST_CROWD && n <= MOST_CROWD && answer == NONE; i++) {
                 crowd[sort] = n;
-                if (comesToRest(small, damping)) {
-                    n += moreToChangeNet(sort);
-                } else {
+                if (beatsTillStill(small, damping) == NONE) {
                     answer = n;
+                } else {
+                    n += moreToChangeNet(sort);
                 }
             }
             crowd[sort] = was;
@@ -615,13 +613,11 @@ public final class FootBridges {
             choiceKnown = false;
         }
 
-        private int chosenPrice(Walkers walkers, int[] rules) {
-            choose(walkers, rules);
+        private int chosenPrice() {
             return chosen == NONE ? NONE : total(price, chosen);
         }
 
-        private int chosenAt(int place, Walkers walkers, int[] rules) {
-            choose(walkers, rules);
+        private int chosenAt(int place) {
             if (chosen == NONE || place < 0) {
                 return NONE;
             }
@@ -678,8 +674,8 @@ public final class FootBridges {
         /** Many sets add the same: each sum is tried once. */
         private boolean settlesWith(int added, Walkers walkers, int[] rules) {
             if (tried[added] == UNTRIED) {
-                boolean rests = walkers.comesToRest(rules[SMALL], rules[DAMPING] + added);
-                tried[added] = rests ? SETTLES : SWAYS_ON;
+                int beats = walkers.beatsTillStill(rules[SMALL], rules[DAMPING] + added);
+                tried[added] = beats == NONE ? SWAYS_ON : SETTLES;
             }
             return tried[added] == SETTLES;
         }
@@ -788,7 +784,7 @@ public final class FootBridges {
         private static final int MOST_DAMPING = 50;
         private static final int CODE = 100;
         private static final int LEAST_NET = -MOST_DAMPING;
-        private static final int MOST_NET = 99 * MOST_PUSH / 100;
+        private static final int MOST_NET = 99 * MOST_PUSH / 100 - 1;
 
         private final int[] walking = new int[MOST];
         private final int[] leastNet = new int[MOST];

@@ -32,6 +32,7 @@ public final class Promises {
         ringOfManySways();
         tooMany();
         tooManyInWindows();
+        tooManyAtTheEdges();
         inStep();
         damper();
         build();
@@ -452,6 +453,26 @@ public final class Promises {
         due("15 it leaps over", x.tooMany(0), NONE);
     }
 
+    private static void tooManyAtTheEdges() {
+        FootBridges x = new FootBridges();
+        x.sort(0, 1, 0, 9999);
+        x.sort(1, 1, 0, 9999);
+        x.crowd(1, 1);
+        due("15 the last there can be", x.tooMany(0), 999);
+        // From 7 a net of -286 leaps over 6 and 5, where another holds it up; one of -285 does not.
+        FootBridges y = new FootBridges();
+        y.rule(0, 500);
+        y.rule(1, 7);
+        y.sort(0, 1, 5, 7);
+        y.sort(1, 99, 5, 6);
+        y.crowd(1, 299);
+        y.sort(2, 99, 0, 9999);
+        y.crowd(2, 217);
+        y.sort(3, 12, 0, 9999);
+        y.crowd(3, 1);
+        due("15 above the stop of another", y.tooMany(0), 5);
+    }
+
     private static void inStep() {
         FootBridges x = new FootBridges();
         x.sort(0, 0, 10, 20);
@@ -552,6 +573,22 @@ public final class Promises {
         y.damper(1, 0, 0);
         due("19 one for nothing makes no pair cheaper", y.cheapest(), 2);
         due("20 and is not taken along", y.bought(2), NONE);
+
+        // 3956 less 500: six dampers of 500 are too few, seven are enough.
+        FootBridges z = new FootBridges();
+        z.rule(0, 500);
+        for (int sort = 0; sort < 4; sort++) {
+            z.sort(sort, 99, 0, 9999);
+            z.crowd(sort, 999);
+        }
+        for (int i = 0; i < 10; i++) {
+            z.damper(500, 9999, 10);
+        }
+        due("19 seven of ten", z.cheapest(), 7 * 9999);
+        due("20 the seventh", z.bought(6), 6);
+        due("20 no eighth", z.bought(7), NONE);
+        z.rule(2, 69);
+        due("19 seven are too heavy", z.cheapest(), NONE);
     }
 
     private static void cheapestAnew() {
@@ -644,6 +681,7 @@ public final class Promises {
         due("23 day(1, -1)", x.day(1, -1), BAD);
         due("23 day(1, 6)", x.day(1, 6), BAD);
         due("23 day(low, high)", x.day(LOW, HIGH), BAD);
+        due("23 nobody comes", new FootBridges().day(60, 5), 0);
     }
 
     private static void dayOfSway() {
@@ -671,6 +709,12 @@ public final class Promises {
         }
         x.sort(0, 99, 1002, 9999);
         due("23 below the lock", x.day(6, 4), 999);
+        FootBridges y = new FootBridges();
+        y.rule(1, 1000);
+        y.sort(0, 50, 0, 9999);
+        y.way(3, 20);
+        y.arrive(0, 20);
+        due("23 1000 by 100 less 10", y.day(1, 3), 1000);
     }
 
     private static void gateThatKnowsLate() {
@@ -710,6 +754,14 @@ public final class Promises {
         x.way(0, 8);
         due("24 on(8, 7)", x.on(8, 7), 2);
         due("24 on(7, 7)", x.on(7, 7), 0);
+        FootBridges y = new FootBridges();
+        y.way(0, 2);
+        y.way(1, 5);
+        y.way(2, 1);
+        y.arrive(0, 20);
+        due("24 as piece 0 has room", y.on(2, 0), 5);
+        due("24 one goes on", y.on(2, 1), 1);
+        due("24 one goes on, one is over", y.on(3, 1), 1);
     }
 
     private static void bestMark() {
@@ -744,6 +796,14 @@ public final class Promises {
             y.arrive(minute, 99);
         }
         due("25 200 at most", y.bestMark(60), 199);
+        // Three loads come in, the last of one or two; the fourth is over in time if it need not wait.
+        for (int minute = 4; minute < 60; minute++) {
+            y.arrive(minute, 0);
+        }
+        y.arrive(2, 1);
+        due("25 200 itself", y.bestMark(12), 200);
+        y.arrive(2, 2);
+        due("25 201 is none", y.bestMark(12), 199);
     }
 
     // ---- promises 26 to 34: tests
@@ -817,6 +877,16 @@ public final class Promises {
         z.test(0, 1000, 2, 960, 960);
         due("28 two beats", z.laws(), 50);
         due("29 two beats", z.law(0), 20);
+        FootBridges high = new FootBridges();
+        high.test(99, 1000, 1, 5000, 5000);
+        due("28 none comes so high", high.laws(), 0);
+        FootBridges low = new FootBridges();
+        low.test(0, 1000, 1, 0, 0);
+        due("28 none comes so low", low.laws(), 0);
+        FootBridges ends = new FootBridges();
+        ends.test(99, 1000, 1, 1047, 9999);
+        due("28 the greatest net", ends.laws(), 1);
+        due("29 the greatest net", ends.law(0), 4901);
     }
 
     private static void forget() {
@@ -882,10 +952,20 @@ public final class Promises {
         due("28 push 0 and 1", y.laws(), 2);
         due("33 all there can be", y.safe(), 999);
         due("32 sure(999)", y.sure(999), 2);
+        FootBridges z = new FootBridges();
+        z.test(0, 1000, 1, 999, 999);
+        z.test(99, 1000, 1, 999, 999);
+        due("28 push 0 and 1, damping 1", z.laws(), 2);
+        due("33 push 1 and damping 1", z.safe(), 99);
     }
 
     private static void next() {
         FootBridges x = new FootBridges();
+        // From 10 it comes to 9 or stays; most laws settle, and by 98 walkers fewest of them.
+        due("34 all laws", x.next(1), 98);
+        // From 5000 each net comes out by itself; whatever n is, fifty laws come to a net of -1.
+        x.rule(1, 5000);
+        due("34 all laws, from 5000", x.next(1), 0);
         x.test(0, 1000, 1, 980, 980);
         x.rule(1, 1000);
         // By 50 walkers pushes come out in pairs; by 49 the pushes 0, 1 and 2 come out alike.
