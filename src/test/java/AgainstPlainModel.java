@@ -49,6 +49,9 @@ public final class AgainstPlainModel {
         }
 
         void go() {
+            if (family == 2) {
+                needDampers();
+            }
             while (calls < CALLS - 4 && wrong < 20) {
                 int pick = family == 5 || random.nextInt(4) == 0 ? random.nextInt(5) : family;
                 switch (pick) {
@@ -89,6 +92,13 @@ public final class AgainstPlainModel {
 
         int low(int least, int most, int usual) {
             return random.nextInt(3) == 0 ? from(least, most) : from(least, Math.min(most, usual));
+        }
+
+        /** Walkers in step at all sways, so that nothing settles without dampers. */
+        void needDampers() {
+            int n = 40 + random.nextInt(100);
+            same(8, "sort(0, 60, 0, 9999)", real.sort(0, 60, 0, 9999), model.sort(0, 60, 0, 9999));
+            same(9, "crowd(0, " + n + ")", real.crowd(0, n), model.crowd(0, n));
         }
 
         void tones() {
@@ -232,7 +242,11 @@ public final class AgainstPlainModel {
                     changeRule();
                     break;
                 case 6:
-                    changeSort();
+                    needDampers();
+                    break;
+                case 7:
+                    a = from(-1, 4);
+                    same(20, "bought(" + a + ")", real.bought(a), model.bought(a));
                     break;
                 default:
                     sway();
