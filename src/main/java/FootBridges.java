@@ -235,7 +235,7 @@ public final class FootBridges {
     }
 
     public int law(int i) {
-        return isWithin(i, 0, trials.fitting - 1) ? trials.codes[i] : NONE;
+        return trials.codeAt(i);
     }
 
     public int among(boolean push, boolean most) {
@@ -581,13 +581,14 @@ public final class FootBridges {
     private static final class Dampers {
         private static final int MOST = 10;
         private static final int MOST_ADD = 500;
-        private static final int UNTRIED = 0, SETTLES = 1, SWAYS_ON = 2;
+        private static final int BITS = 64;
 
         private final int[] add = new int[MOST];
         private final int[] price = new int[MOST];
         private final int[] load = new int[MOST];
         private final int[] built = new int[MOST];
-        private final int[] tried = new int[MOST * MOST_ADD + 1];
+        private final long[] tried = new long[MOST * MOST_ADD / BITS + 1];
+        private final long[] settling = new long[MOST * MOST_ADD / BITS + 1];
         private int count;
         private boolean choiceKnown;
         private int chosen;
@@ -652,7 +653,8 @@ public final class FootBridges {
             if (choiceKnown) {
                 return;
             }
-            Arrays.fill(tried, UNTRIED);
+            Arrays.fill(tried, 0);
+            Arrays.fill(settling, 0);
             chosen = NONE;
             for (int set = (1 << count) - 1; set >= 0; set--) {
                 if (total(load, set) <= rules[CARRY] && isBetter(set)
@@ -671,13 +673,17 @@ public final class FootBridges {
             return more < 0 || more == 0 && Integer.bitCount(set) < Integer.bitCount(chosen);
         }
 
-        /** Many sets add the same: each sum is tried once. */
+        /** Many sets add the same: each sum is tried once, and has a bit, as a row of 5001 takes much room. */
         private boolean settlesWith(int added, Walkers walkers, int[] rules) {
-            if (tried[added] == UNTRIED) {
-                int beats = walkers.beatsTillStill(rules[SMALL], rules[DAMPING] + added);
-                tried[added] = beats == NONE ? SWAYS_ON : SETTLES;
+            int place = added / BITS;
+            long bit = 1L << added % BITS;
+            if ((tried[place] & bit) == 0) {
+                tried[place] |= bit;
+                if (walkers.beatsTillStill(rules[SMALL], rules[DAMPING] + added) != NONE) {
+                    settling[place] |= bit;
+                }
             }
-            return tried[added] == SETTLES;
+            return (settling[place] & bit) != 0;
         }
     }
 
@@ -789,7 +795,7 @@ public final class FootBridges {
         private final int[] walking = new int[MOST];
         private final int[] leastNet = new int[MOST];
         private final int[] mostNet = new int[MOST];
-        private final int[] codes = new int[(MOST_PUSH + 1) * MOST_DAMPING];
+        private final long[] fits = new long[MOST_PUSH + 1];
         private final int[] groups = new int[MOST_NET - LEAST_NET + 1];
         private final int[] inGroup = new int[MOST_NET - LEAST_NET + 1];
         private int count;
@@ -846,16 +852,37 @@ public final class FootBridges {
             return count;
         }
 
+        /** A push has one bit for each damping with which it fits, as a row of 2500 laws takes much room. */
         private void findFitting() {
             fitting = 0;
             for (int push = 0; push <= MOST_PUSH; push++) {
+                fits[push] = 0;
                 for (int damping = 1; damping <= MOST_DAMPING; damping++) {
                     if (firstBroken(push, damping) == NONE) {
-                        codes[fitting] = CODE * push + damping;
+                        fits[push] |= 1L << damping;
                         fitting++;
                     }
                 }
             }
+        }
+
+        private boolean isFitting(int push, int damping) {
+            return (fits[push] >> damping & 1) == 1;
+        }
+
+        private int codeAt(int place) {
+            int passed = 0;
+            for (int push = 0; push <= MOST_PUSH; push++) {
+                for (int damping = 1; damping <= MOST_DAMPING; damping++) {
+                    if (isFitting(push, damping)) {
+                        if (passed == place) {
+                            return CODE * push + damping;
+                        }
+                        passed++;
+                    }
+                }
+            }
+            return NONE;
         }
 
         private int firstBroken(int push, int damping) {
@@ -868,12 +895,14 @@ public final class FootBridges {
             return NONE;
         }
 
-        private int farthest(boolean push, boolean most) {
+        private int farthest(boolean ofPush, boolean most) {
             int found = NONE;
-            for (int i = 0; i < fitting; i++) {
-                int v = push ? codes[i] / CODE : codes[i] % CODE;
-                if (found == NONE || (most ? v > found : v < found)) {
-                    found = v;
+            for (int push = 0; push <= MOST_PUSH; push++) {
+                for (int damping = 1; damping <= MOST_DAMPING; damping++) {
+                    int v = ofPush ? push : damping;
+                    if (isFitting(push, damping) && (found == NONE || (most ? v > found : v < found))) {
+                        found = v;
+                    }
                 }
             }
             return found;
@@ -882,9 +911,11 @@ public final class FootBridges {
         /** By one net for all sways it settles just when the net is below 0. */
         private int sureness(int n) {
             int settling = 0;
-            for (int i = 0; i < fitting; i++) {
-                if (lawNet(n, codes[i] / CODE, codes[i] % CODE) < 0) {
-                    settling++;
+            for (int push = 0; push <= MOST_PUSH; push++) {
+                for (int damping = 1; damping <= MOST_DAMPING; damping++) {
+                    if (isFitting(push, damping) && lawNet(n, push, damping) < 0) {
+                        settling++;
+                    }
                 }
             }
             if (settling == 0) {
@@ -896,11 +927,11 @@ public final class FootBridges {
         /** More walkers never lower a net, so each law has one greatest number by which it settles. */
         private int mostSafe() {
             int most = MOST_CROWD;
-            for (int i = 0; i < fitting; i++) {
-                int push = codes[i] / CODE;
-                int damping = codes[i] % CODE;
-                if (push > 0) {
-                    most = Math.min(most, (100 * damping - 1) / push);
+            for (int push = 1; push <= MOST_PUSH; push++) {
+                for (int damping = 1; damping <= MOST_DAMPING; damping++) {
+                    if (isFitting(push, damping)) {
+                        most = Math.min(most, (100 * damping - 1) / push);
+                    }
                 }
             }
             return most;
@@ -934,15 +965,18 @@ public final class FootBridges {
             }
         }
 
-        /** It stops at the number that is no better than what was found before. */
+        /** It stops at a push by which the number is no better than what was found before. */
         private int mostAlike(int n, int enough) {
             Arrays.fill(inGroup, 0);
             int most = 0;
-            for (int i = 0; i < fitting && most < enough; i++) {
-                int net = lawNet(n, codes[i] / CODE, codes[i] % CODE);
-                int group = groups[net - LEAST_NET];
-                inGroup[group]++;
-                most = Math.max(most, inGroup[group]);
+            for (int push = 0; push <= MOST_PUSH && most < enough; push++) {
+                for (int damping = 1; damping <= MOST_DAMPING; damping++) {
+                    if (isFitting(push, damping)) {
+                        int group = groups[lawNet(n, push, damping) - LEAST_NET];
+                        inGroup[group]++;
+                        most = Math.max(most, inGroup[group]);
+                    }
+                }
             }
             return most;
         }
