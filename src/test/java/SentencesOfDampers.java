@@ -1,6 +1,6 @@
 /**
  * Each sentence of the document's part 3 and promises 17 to 20 that names a boundary, in its own words and
- * with a test of its own. What is due was worked out by hand.
+ * with a test of its own. What is due was worked out from the words, not taken from the class.
  */
 public final class SentencesOfDampers {
     private static final int UNKNOWN = -1, BAD = -2, FULL = -4, NONE = -9;

@@ -4,7 +4,7 @@ import java.util.function.ToIntFunction;
 
 /**
  * Each sentence of the document's part 6 that names a boundary, in its own words and
- * with a test of its own. What is due was worked out by hand.
+ * with a test of its own. What is due was worked out from the words, not taken from the class.
  */
 public final class SentencesOfRefusals {
     private static final int UNKNOWN = -1, BAD = -2, FULL = -4;

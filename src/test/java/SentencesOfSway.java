@@ -1,6 +1,6 @@
 /**
  * Each sentence of the document's part 2 and promises 8 to 16 that names a boundary, in its own words and
- * with a test of its own. What is due was worked out by hand.
+ * with a test of its own. What is due was worked out from the words, not taken from the class.
  */
 public final class SentencesOfSway {
     private static final int UNKNOWN = -1, BAD = -2, NONE = -9;

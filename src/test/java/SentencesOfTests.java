@@ -1,6 +1,6 @@
 /**
  * Each sentence of the document's part 5 and promises 26 to 35 that names a boundary, in its own words and
- * with a test of its own. What is due was worked out by hand.
+ * with a test of its own. What is due was worked out from the words, not taken from the class.
  */
 public final class SentencesOfTests {
     private static final int UNKNOWN = -1, BAD = -2, FULL = -4, NONE = -9;
@@ -221,6 +221,10 @@ public final class SentencesOfTests {
         x.test(0, 1000, 1, 0, 0);
         due("no LAW FITS", x.sure(0), 0);
         due("no LAW FITS", x.sure(999), 0);
+        // Of all LAWS those of a DAMPING of 1 are the first not to settle: 3 walkers of 34 push 1.02.
+        due("all LAWS: by all", new FootBridges().sure(2), 2);
+        due("all LAWS: by some", new FootBridges().sure(3), 1);
+        due("a DAMPING of 1 and a PUSH of 0 settles with all", new FootBridges().sure(999), 1);
         // A net of 0 does not settle from any SMALL; one below 0 does from any.
         FootBridges y = ofDamping(20);
         y.test(99, 1000, 1, 1028, 9999);
@@ -279,10 +283,13 @@ public final class SentencesOfTests {
     private static void partsBest() {
         says("that by which the SWAY that comes out parts LAWS that FIT best: "
                 + "the most of them that come to one and the same SWAY are fewest");
-        // A DAMPING of 20 and all PUSHES: by 50 walkers they come out in pairs at most, by fewer in threes.
+        // One DAMPING and all PUSHES: by 50 walkers they come out in pairs at most, by fewer in threes.
+        for (int damping : new int[] {1, 20, 50}) {
+            FootBridges each = ofDamping(damping);
+            each.rule(1, 1000);
+            due("in pairs, by a DAMPING of " + damping, each.next(1), 50);
+        }
         FootBridges x = ofDamping(20);
-        x.rule(1, 1000);
-        due("in pairs", x.next(1), 50);
         // From 1 what settles is parted from what stays: 25 and 25 by 80 walkers.
         x.rule(1, 1);
         due("in halves", x.next(1), 80);

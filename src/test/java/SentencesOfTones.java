@@ -1,6 +1,6 @@
 /**
  * Each sentence of the document's part 1 and promises 1 to 7 that names a boundary, in its own words and
- * with a test of its own. What is due was worked out by hand.
+ * with a test of its own. What is due was worked out from the words, not taken from the class.
  */
 public final class SentencesOfTones {
     private static final int UNKNOWN = -1, BAD = -2;
